@@ -488,7 +488,10 @@ public final class MountYard {
 
     /** The root has itself as parent, so by the document's words it is a child of itself. */
     boolean isChild(int file, int directory) {
-      return has(file) && nodes[file].parent == directory && !nodes[file].gone;
+      return file >= 0
+          && file < made
+          && nodes[file].parent == directory
+          && !nodes[file].gone;
     }
 
     boolean hasChildren(int directory) {
@@ -1109,7 +1112,7 @@ public final class MountYard {
     }
 
     int at(int i) {
-      return has(i) ? numbers[i] : NONE;
+      return i >= 0 && i < count ? numbers[i] : NONE;
     }
 
     void empty() {

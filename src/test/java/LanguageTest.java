@@ -10,7 +10,6 @@ public final class LanguageTest {
     "->", "::", "\\bfinally\\b", "\\bsynchronized\\b", "\\bassert\\b", "\\bgetMessage\\b", "Exact\\(",
     "\\bSystem\\.(?!arraycopy)", "\\bpackage\\b", "\\bprotected\\b", "\\bstatic \\{", "\\bThread\\b",
     "\\bObject\\b", "\\bvar\\b", "\\bhashCode\\b", "\\btoString\\b", "\\bnew [A-Za-z]+Exception\\([^\")]",
-    "\\bdo \\{", "\\bfor \\([A-Za-z]+ [a-z]+ :", "\\bwhile\\b",
   };
 
   public static void main(String[] args) throws Exception {

@@ -28,7 +28,7 @@ public final class Promise03BeginTest {
     check.same("161", wire.begin(161, "9P2000"), begun(160, "9P2000"));
     check.same("2^31", wire.begin(1L << 31, "9P2000u"), begun(160, "9P2000"));
     check.same("2^32 - 1", wire.begin(4294967295L, "9P2000"), begun(160, "9P2000"));
-    String[] others = {"", "9P200", "9P", "9p2000", "x9P2000", "9P2001", "unknown", "9P2O00"};
+    String[] others = {"", "9P200", "9P", "9p2000", "x9P2000", "9P2001", "unknown", "9P2O00", "8P2000"};
     for (String other : others) {
       wire.begin(100, "9P2000");
       check.same("[" + other + "]", wire.begin(100, other), begun(100, "unknown"));

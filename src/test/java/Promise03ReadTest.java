@@ -9,6 +9,7 @@ public final class Promise03ReadTest {
     changesWhileReading(check);
     root(check);
     wholeFrame(check);
+    countsAboveTheFrame(check);
     orderOfErrors(check);
     form(check);
     check.end();
@@ -172,6 +173,15 @@ public final class Promise03ReadTest {
     full.unmake(1, "d", "e");
     full.make(1, "x", 7);
     check.same("the end", full.read(2, 120, 149), told(""));
+  }
+
+  /** With M = 72 there is room for the 61 bytes of two stats, with M = 71 for the first alone. */
+  private static void countsAboveTheFrame(Check check) {
+    Bytes both = new Bytes().raw(stat(2, "a").array()).raw(stat(3, "bb").array());
+    for (long count : new long[] {61, 62, 1L << 31, 4294967295L}) {
+      check.same("M is 72, count " + count, planted(72).read(2, 0, count), told(both));
+      check.same("M is 71, count " + count, planted(71).read(2, 0, count), told(stat(2, "a")));
+    }
   }
 
   private static void orderOfErrors(Check check) {
