@@ -47,6 +47,10 @@ final class Bytes {
     return new Bytes().number(7 + body.length, 4).number(type, 1).number(tag, 2).raw(body).array();
   }
 
+  static byte[] frame(int type, int tag, Bytes body) {
+    return frame(type, tag, body.array());
+  }
+
   static String hex(byte[] bytes) {
     StringBuilder text = new StringBuilder();
     for (byte b : bytes) {

@@ -4,12 +4,15 @@ import java.util.Objects;
 final class Check {
   private int wrong = 0;
   private int looked = 0;
+  private String words = "";
+  private int lookedBefore = 0;
 
   void same(String what, Object got, Object due) {
     looked++;
     if (!Objects.equals(got, due)) {
       wrong++;
-      System.out.println(what + " answered " + got + ", due is " + due);
+      String place = words.isEmpty() ? "" : "[" + words + "] ";
+      System.out.println(place + what + " answered " + got + ", due is " + due);
     }
   }
 
@@ -26,7 +29,26 @@ final class Check {
     same(what, answer(call), String.valueOf(due));
   }
 
+  /** What is looked at from here on is asked for by these words, which stand once in the document. */
+  void says(String newWords) {
+    endOfWords();
+    words = newWords;
+    lookedBefore = looked;
+    if (!Document.hasOnce(newWords)) {
+      wrong++;
+      System.out.println("not once in the document: " + newWords);
+    }
+  }
+
+  private void endOfWords() {
+    if (!words.isEmpty() && looked == lookedBefore) {
+      wrong++;
+      System.out.println("nothing was looked at for: " + words);
+    }
+  }
+
   void end() {
+    endOfWords();
     if (looked == 0) {
       System.out.println("nothing was looked at");
     }

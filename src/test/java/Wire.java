@@ -22,6 +22,31 @@ final class Wire {
     return wire;
   }
 
+  /** The name that a file of withFiles has. */
+  static String nameOf(int file) {
+    return "" + (char) ('a' + file / 26) + (char) ('a' + file % 26);
+  }
+
+  /** An object with so many files, all but the root in the root; handle 1 is at the root. */
+  static Wire withFiles(int count) {
+    Wire wire = new Wire();
+    wire.sendThriftily(
+        Bytes.frame(100, 65535, new Bytes().number(120, 4).string("9P2000")),
+        Bytes.frame(104, 1, new Bytes().number(1, 4).number(NONE, 4).string("").string("")));
+    wire.fillUp(count);
+    return wire;
+  }
+
+  /** Makes files in the root, at which handle 1 must stand, until there are so many. */
+  void fillUp(int count) {
+    for (int i = yard.files(); i < count; i++) {
+      sendThriftily(
+          Bytes.frame(110, 1, new Bytes().number(1, 4).number(99, 4).number(0, 2)),
+          Bytes.frame(114, 1, new Bytes().number(99, 4).string(nameOf(i)).number(7, 4).number(0, 1)),
+          Bytes.frame(120, 1, new Bytes().number(99, 4)));
+    }
+  }
+
   static long word(byte[] bytes, int from, int n) {
     long word = 0;
     for (int i = 0; i < n; i++) {
@@ -65,6 +90,19 @@ final class Wire {
       return "error " + (char) body[2];
     }
     return told + ":" + Bytes.hex(body);
+  }
+
+  /** Sends frames in full words and drops the replies: few calls, as an object is good for 512. */
+  void sendThriftily(byte[]... frames) {
+    Bytes row = new Bytes();
+    for (byte[] frame : frames) {
+      row.raw(frame);
+    }
+    feed(row.array());
+    for (int i = 0; i < frames.length; i++) {
+      yard.serve();
+    }
+    yard.drop(yard.size(true));
   }
 
   String send(int type, Bytes body) {
