@@ -1,9 +1,13 @@
+import java.io.IOException;
 import java.lang.reflect.Constructor;
 import java.lang.reflect.Field;
 import java.lang.reflect.Method;
 import java.lang.reflect.Modifier;
+import java.nio.file.Files;
+import java.nio.file.Path;
 import java.util.Arrays;
 import java.util.HashSet;
+import java.util.List;
 import java.util.Set;
 import java.util.TreeSet;
 
@@ -29,7 +33,7 @@ public final class FaceTest {
     "boolean fork(int,int,boolean)",
   };
 
-  public static void main(String[] args) {
+  public static void main(String[] args) throws IOException {
     Check check = new Check();
     Set<String> due = new TreeSet<>(Arrays.asList(FACE));
     Set<String> got = new TreeSet<>();
@@ -53,7 +57,23 @@ public final class FaceTest {
     int modifiers = MountYard.class.getModifiers();
     check.same("the class", Modifier.isPublic(modifiers) && Modifier.isFinal(modifiers), true);
     check.same("classes", MountYard.class.getDeclaredClasses().length <= 12, true);
+    asTheDocumentWritesIt(check);
     check.end();
+  }
+
+  /** FACE is a copy, and reflection does not tell the parameters' names. */
+  private static void asTheDocumentWritesIt(Check check) throws IOException {
+    String text = Files.readString(Path.of("src/main/java/MountYard.java")).replaceAll("\\s+", " ");
+    List<String> face = Document.face();
+    check.same("lines of the face", face.size(), FACE.length + 3);
+    for (String line : face) {
+      String head = line.endsWith(");") || line.contains(" throws ") ? line.replace(";", " {") : line;
+      check.same(head, text.contains(head), true);
+    }
+    for (String head : Document.heads()) {
+      check.same("in the face: " + head, face.contains("public " + head + ";"), true);
+    }
+    check.same("heads of promises", Document.heads().size(), FACE.length + 1);
   }
 
   private static void lookAtFields(Check check) {
